@@ -275,9 +275,10 @@ public final class CoatRows {
         int most = -1;
         for (int r = 0; r < ROOMS; r++) {
             int here = chips.inRoom(r);
-            if (here != 0 && paintings.notIn(here) > most) {
+            int unseen = here == 0 ? -1 : paintings.notIn(here);
+            if (unseen > most) {
                 room = r;
-                most = paintings.notIn(here);
+                most = unseen;
             }
         }
         return room;
@@ -961,7 +962,7 @@ public final class CoatRows {
                 int here = base + place;
                 boolean open = place < width - 1;
                 int want = open ? 1 << chips.row[0].colours[place] : 0;
-                // Painting the first chip alone is never better than painting others with it, but no worse to try.
+                // The first chip alone: others that wait meanwhile never make it fewer, so they need no look.
                 int best = open ? left[here + 1] : PAINTINGS_MOST;
                 for (int i = 0; i < serving; i++) {
                     int stride = servingStrides[i] + ((same[servingColours[i]] & want) != 0 ? 1 : 0);

@@ -129,7 +129,7 @@ public final class PromisesTest {
 
     private static void chipFaults() {
         Object[][] faults = {
-            {"", 0}, {"  ", 2}, {"room", 4}, {"room ", 5}, {"rooms 0 a0;", 0}, {"rooma0;", 0}, {"roo m", 0}, {"Room 0 a0;", 0},
+            {"", 0}, {"  ", 2}, {"room", 4}, {"room ", 5}, {"rooms 0 a0;", 0}, {"rooma0;", 0}, {"roo m", 0}, {"roomz 0 a0;", 0}, {"zoom 0 a0;", 0}, {"room 0 lores a0;", 7}, {"Room 0 a0;", 0},
             {"room a", 5}, {"room 6", 5}, {"room 00", 5}, {"room 01", 5}, {"room 1000", 5}, {"room 0", 6}, {"room 0;", 6},
             {"room 0 pores;", 12}, {"room 0 pores pores", 13}, {"room 0 a0 pores", 10}, {"room 0 poresa0;", 7}, {"pores", 0},
             {"room 0 m0;", 7}, {"room 0 z0;", 7}, {"room 0 ab0;", 7}, {"room 0 a b", 9}, {"room 0 a;", 8}, {"room 0 a10;", 8},
@@ -148,6 +148,8 @@ public final class PromisesTest {
         }
         due("4 a long text", -10 - 399, Checks.chip(new CoatRows(), "room 0 a0;" + " ".repeat(389) + "x"));
         due("4 a long text that ends early", -10 - 400, Checks.chip(new CoatRows(), "room 0 a0" + " ".repeat(391)));
+        due("4 as many tokens as bytes", -10, Checks.chip(new CoatRows(), ";".repeat(400)));
+        due("5 as many tokens as bytes", -10, Checks.book(new CoatRows(), "0a".repeat(200)));
         due("4 a long number", -10 - 5, Checks.chip(new CoatRows(), "room " + "9".repeat(395)));
     }
 
@@ -185,7 +187,7 @@ public final class PromisesTest {
             {"stuff a 5 1000;", 10}, {"stuff a 5 5", 11}, {"stuff a 5 5 5", 12}, {"stuff a 5 5 bill", 12}, {"alike", 5},
             {"alike a", 7}, {"alike a;", 7}, {"alike a a;", 8}, {"alike a m;", 8}, {"alike a 0;", 8}, {"alike a b", 9},
             {"alike a b c;", 10}, {"alike ab;", 6}, {"bill", 4}, {"bill a", 5}, {"bill 1000 a;", 5}, {"bill 5", 6}, {"bill 5;", 6},
-            {"bill 5 m;", 7}, {"bill 5 a", 8}, {"bill 5 a b;", 9}, {"bill 5 a;;", 9}, {"bill 5 a;bills", 9}, {"pores;", 0},
+            {"bill 5 m;", 7}, {"bill 5 a", 8}, {"bill 5 a b;", 9}, {"bill 5 a;;", 9}, {"bill 5 a;bills", 9}, {"pores;", 0}, {"bill 5 ;", 7}, {"bill;", 4}, {"stuff a;", 7}, {"ztuff a 1 2;", 0}, {"zlike a b;", 0}, {"zill 5 a;", 0}, {"billz 5 a;", 0},
             {"bill 0 a;".repeat(8) + "bill 0 a;", 72}, {"bill 0 a;".repeat(8) + "bil", 72}, {"stuff a 1 2;?", 12},
             {"bill 5 a; \u00e9", 10}, {"alike l l;", 8}, {"alike b a; alike a b; alike b b", 30}, {"stuff a 999 998;", 12},
         };
@@ -295,6 +297,7 @@ public final class PromisesTest {
         due("11 alike the other way", 2, x.least(3, 2));
         x.tune(2, 1);
         due("11 not alike under the lamp", 20, x.least(1, 3));
+        due("11 not alike under the lamp, back", 20, x.least(3, 1));
         x.tune(2, 0);
         x.tune(1, 0);
         due("11 dirt costs nothing", 10, x.least(0, 1));
@@ -341,6 +344,15 @@ public final class PromisesTest {
         due("13 of two the nearer", 0, x.laid(1, 0, 0));
         x.tune(1, 4);
         due("13 as dear, rather beside", NONE, x.laid(0, 1, 0));
+        CoatRows w = rows("", "room 0 a0b0b0c0;", "room 0 b0a0b0b0c0;");
+        int[] laid = {1, 2, 3, 4};
+        for (int k = 0; k < laid.length; k++) {
+            due("13 one behind the other " + k, laid[k], w.laid(0, 1, k));
+        }
+        int[] back = {NONE, 0, 1, 2, 3};
+        for (int k = 0; k < back.length; k++) {
+            due("13 one behind the other, back " + k, back[k], w.laid(1, 0, k));
+        }
         due("13 itself", BAD, x.laid(0, 0, 0));
         due("13 no chip", BAD, x.laid(0, 3, 0));
         due("13 no coat", BAD, x.laid(0, 1, 3));
@@ -375,6 +387,12 @@ public final class PromisesTest {
         due("14 the first that could be", 2, y.painting(0));
         y.book();
         due("14 of another book", 3, y.painting(0));
+        CoatRows w = rows("", "room 0 c0;", "room 0 b0a0;", "room 0 a0c0;");
+        int[] row = {1, 0, 2};
+        due("14 three", 3, w.painting(-1));
+        for (int k = 0; k < row.length; k++) {
+            due("14 the one row that is for all " + k, row[k], w.painting(k));
+        }
         CoatRows z = rows("", "room 0 a0b0a0b0a0b0a0b0a0b0;", "room 0 c0d0c0d0c0d0c0d0c0d0;", "room 0 e0f0e0f0e0f0e0f0e0f0;",
             "room 0 g0h0g0h0g0h0g0h0g0h0;");
         due("14 the most", 40, z.painting(-1));
@@ -526,9 +544,24 @@ public final class PromisesTest {
         billedRow("at the ends of its span", rows("stuff a 10 20;bill 20 a;bill 10 a;", "room 0 a0;"), 1, 1);
         billedRow("each span by itself", rows("stuff a 0 9;stuff b 0 9;bill 4 a;bill 6 b;", "room 0 a2b0;"), 2, 1, 2);
         billedRow("spans can't be", rows("stuff a 9 9;stuff b 0 8;bill 9 a;", "room 0 a0b0;"), 0, 0, 0);
+        billedRow("none twice", rows("bill 3 a;bill 3 a;", "room 0 a0a0a0;"), 1, 0, 0, 1);
+        billedRow("none between", rows("bill 3 a;bill 2 b;bill 4 b;bill 3 c;", "room 0 b0a0c0b0;"), 3, 2, 0, 4, 3);
+        billedRow("the last one counts", rows("bill 9 a;bill 4 b;bill 8 c;", "room 0 a0b0c0;"), 2, 0, 2, 3);
         billedRow("no chips", rows("bill 5 a;"), 0);
         billedRow("eight", rows("bill 8 a;bill 7 a;bill 6 a;bill 5 a;bill 4 a;bill 3 a;bill 2 a;bill 1 a;",
             "room 0 a0a0a0a0a0a0a0a0a0;"), 8, 0, 8, 7, 6, 5, 4, 3, 2, 1);
+        CoatRows z = rows("bill 30 g;bill 40 h;", "room 0 a0b0a0b0a0b0a0b0a0b0;", "room 0 c0d0c0d0c0d0c0d0c0d0;",
+            "room 0 e0f0e0f0e0f0e0f0e0f0;", "room 0 g0h0g0h0g0h0g0h0g0h0;");
+        due("20 forty paintings", 2, z.billed(-1));
+        due("20 the last of forty", 2, z.billed(39));
+        due("20 the only one early enough", 1, z.billed(30));
+        while (z.count(0) > 1) {
+            z.drop(0);
+        }
+        billedRow("after more paintings", z, 2, 0, 0, 0, 0, 0, 0, 0, 0, 1, 2);
+        Checks.chip(z, "room 0 g0;");
+        z.drop(0);
+        billedRow("after ten paintings", z, 1, 1);
         CoatRows x = rows("bill 5 a;", "room 0 a0;");
         due("20 below", BAD, x.billed(-2));
         due("20 far", BAD, x.billed(HIGH));
@@ -574,6 +607,10 @@ public final class PromisesTest {
         due("22 no chips", NONE, x.next());
         CoatRows y = rows("", "room 3 a0;", "room 1 b0;");
         due("22 of several the least", 1, y.next());
+        CoatRows z = rows("", "room 5 a0;", "room 0 b0;");
+        due("22 room 0", 0, z.next());
+        CoatRows w = rows("", "room 3 a0b0c0;", "room 2 a0;", "room 1 b0c0;", "room 0 a0b0c0;");
+        due("22 whose own chip has the fewest", 2, w.next());
     }
 
     private static void rank() {
@@ -627,7 +664,9 @@ public final class PromisesTest {
         due("25 the text stays", 4, x.count(3));
         due("25 the trace stays", 1, x.trace());
         x.drop(1);
+        due("25 fewer paintings", 2, x.painting(-1));
         due("25 again", 2, x.back(0));
+        due("25 its paintings again", 3, x.painting(-1));
         due("25 the other", 3, x.back(1));
         due("25 its chips", 4, x.about(2, 0));
         due("25 its first", 2, x.about(0, 0));
