@@ -923,7 +923,7 @@ public final class CoatRows {
                 states *= chips.row[c].size + 1;
             }
             int width = chips.count > 0 ? chips.row[0].size + 1 : 1;
-            if (states > STATES || width > states) {
+            if (states > STATES || width < 1 || width > states) {
                 return;
             }
             for (int base = states - width; base >= 0; base -= width) {
