@@ -895,6 +895,7 @@ public final class CoatRows {
      */
     private static final class Paintings {
         private static final int STATES = (COATS_MOST + 1) * (COATS_MOST + 1) * (COATS_MOST + 1) * (COATS_MOST + 1);
+        private static final int STATES_AT_FIRST = 64;
 
         int count;
         final int[] colours = new int[PAINTINGS_MOST];
@@ -903,7 +904,7 @@ public final class CoatRows {
         final int[] ofCoat = new int[PAINTINGS_MOST];
 
         /** How many paintings are left at the fewest, state by state. */
-        private final byte[] left = new byte[STATES];
+        private byte[] left = new byte[STATES_AT_FIRST];
         private final int[] strides = new int[CHIPS_MOST];
         private final int[] places = new int[CHIPS_MOST];
         private final int[] wants = new int[CHIPS_MOST];
@@ -923,15 +924,24 @@ public final class CoatRows {
                 states *= chips.row[c].size + 1;
             }
             int width = chips.count > 0 ? chips.row[0].size + 1 : 1;
+            count = 0;
             if (states > STATES || width < 1 || width > states) {
                 return;
             }
+            makeRoom(states);
             for (int base = states - width; base >= 0; base -= width) {
                 look(base);
                 findServing();
                 fillRow(base, width);
             }
             walk();
+        }
+
+        /** Few objects ever need the whole table, so it grows, by doubling: all its sizes together stay small. */
+        private void makeRoom(int states) {
+            if (states > left.length) {
+                left = new byte[Math.min(STATES, Math.max(states, 2 * left.length))];
+            }
         }
 
         int notIn(int bits) {
@@ -976,7 +986,6 @@ public final class CoatRows {
 
         private void walk() {
             int s = 0;
-            count = 0;
             while (count < PAINTINGS_MOST && left[s] > 0) {
                 look(s);
                 int l = firstColour(s);

@@ -7,6 +7,10 @@ public final class PlainModelTest {
     private static final String[] JUNK = {";", "room", "pores", "stuff", "alike", "bill", "m", "z", "ab", "0", "00", "07",
         "5", "6", "9", "10", "999", "1000", "12345678901234567890", "A", "#", "\t", "\u00ff", "-", "a", "l", "rooms", " "};
 
+    /** A step makes at most some sixty calls, and the document promises nothing behind 512. */
+    private static final int CALLS_BEFORE_LAST_STEP = 440;
+    private static final int LONG_TEXT = 60;
+
     private final Checks checks = new Checks();
     private final Random chance;
     private final int coatsMost;
@@ -36,7 +40,7 @@ public final class PlainModelTest {
     }
 
     private boolean run() {
-        while (calls < 500) {
+        while (calls < CALLS_BEFORE_LAST_STEP) {
             if (!step()) {
                 told.forEach(System.out::println);
                 return false;
@@ -136,7 +140,7 @@ public final class PlainModelTest {
     private boolean type(String text) {
         boolean right = true;
         for (int i = 0; i < text.length() && right; ) {
-            int n = Math.min(text.length() - i, pick(1, 8));
+            int n = Math.min(text.length() - i, text.length() > LONG_TEXT ? 8 : pick(1, 8));
             long v = chance.nextLong();
             for (char sign : text.substring(i, i + n).toCharArray()) {
                 v = v << 8 | sign;

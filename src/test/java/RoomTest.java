@@ -2,8 +2,8 @@ import java.lang.management.ManagementFactory;
 
 /** Calls make no objects and elements, a new object few; the dearest run of calls ends soon. */
 public final class RoomTest {
-    private static final int CALLS = 512;
-    private static final long BYTES_OF_AN_OBJECT = 40000;
+    private static final int ROUNDS = 150;
+    private static final long BYTES_OF_AN_OBJECT = 20000;
     private static final long BYTES_OF_A_RUN = 20000;
     private static final long SECONDS = 30;
     private static final String BOOK = "alike a b;alike b c;alike d e;alike e f;alike g h;alike h i;alike j k;alike k l;"
@@ -42,9 +42,9 @@ public final class RoomTest {
     /** The lamp makes the paintings be found anew, over and over, each time for another dear call. */
     private static long dearest(CoatRows x) {
         long sum = 0;
-        for (int i = 0; i < CALLS; i += 2) {
-            x.tune(2, i / 2 % 2);
-            switch (i / 2 % 10) {
+        for (int i = 0; i < ROUNDS; i++) {
+            x.tune(2, i % 2);
+            switch (i % 10) {
                 case 0 -> sum += x.billed(-1);
                 case 1 -> sum += x.painting(i % 40);
                 case 2 -> sum += x.face(i % 4, 3);
@@ -58,7 +58,7 @@ public final class RoomTest {
                     x.drop(3);
                     x.type(0x726f6f6d35613b20L, 8);
                     sum += x.chip() + x.clear();
-                    x.back(0);
+                    x.back(1);
                 }
             }
         }
