@@ -1,3 +1,4 @@
+import java.io.DataInputStream;
 import java.io.IOException;
 import java.lang.reflect.Constructor;
 import java.lang.reflect.Field;
@@ -20,6 +21,10 @@ public final class LanguageTest {
         + "laid(int,int,int) least(int,int) next() painting(int) rank(int,int,int) span(int,int) trace() tune(int,int) "
         + "type(long,int) ways(int,int)";
 
+    /** What may be called, as compiled classes name it; the list of the rules is longer than what the class needs. */
+    private static final String CALLS = "CoatRows.*|java/lang/Object\\.<init>|java/lang/System\\.arraycopy|java/util/Arrays\\.fill"
+        + "|java/lang/Math\\.(max|min|abs)|java/lang/Integer\\.bitCount|java/lang/String\\.(length|charAt)";
+
     public static void main(String[] args) throws IOException {
         String source = Files.readString(Path.of("src/main/java/CoatRows.java"));
         String code = source.replaceAll("(?s)/\\*.*?\\*/|//[^\\n]*", "").replaceAll("\"[^\"\\n]*\"", "\"\"");
@@ -29,6 +34,7 @@ public final class LanguageTest {
         methods(code);
         face();
         insides();
+        library();
         CHECKS.end("LanguageTest");
     }
 
@@ -162,5 +168,42 @@ public final class LanguageTest {
                 int[].class, long[].class, char[].class, byte[].class).contains(kind));
         }
         no("too many fields: " + type, own > 20);
+    }
+
+    private static void library() throws IOException {
+        library(CoatRows.class);
+        for (Class<?> inside : CoatRows.class.getDeclaredClasses()) {
+            library(inside);
+        }
+    }
+
+    /** A compiled class names all that it calls in its constants: methods are pairs of a class and a name. */
+    private static void library(Class<?> type) throws IOException {
+        try (DataInputStream in = new DataInputStream(CoatRows.class.getResourceAsStream(type.getName() + ".class"))) {
+            in.skipNBytes(8);
+            int many = in.readUnsignedShort();
+            String[] texts = new String[many];
+            int[][] parts = new int[many][];
+            for (int i = 1; i < many; i++) {
+                int tag = in.readUnsignedByte();
+                switch (tag) {
+                    case 1 -> texts[i] = in.readUTF();
+                    case 3, 4 -> in.skipNBytes(4);
+                    case 5, 6 -> {
+                        in.skipNBytes(8);
+                        i++;
+                    }
+                    case 7, 8, 16, 19, 20 -> parts[i] = new int[] {tag, in.readUnsignedShort()};
+                    case 9, 10, 11, 12 -> parts[i] = new int[] {tag, in.readUnsignedShort(), in.readUnsignedShort()};
+                    default -> throw new IOException("a call that is found only when it is made, in " + type);
+                }
+            }
+            for (int[] part : parts) {
+                if (part != null && (part[0] == 10 || part[0] == 11)) {
+                    String called = texts[parts[part[1]][1]] + "." + texts[parts[part[2]][1]];
+                    no("a call of " + called, !called.matches(CALLS));
+                }
+            }
+        }
     }
 }
